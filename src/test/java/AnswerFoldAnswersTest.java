@@ -407,6 +407,12 @@ public final class AnswerFoldAnswersTest extends SentenceTest {
             weak(x, -1, 2, 1);
             x.walk();
             due("the same sum over levels is not the same", x.best(), 1);
+            AnswerFold first = chooser(4, 1, 1);
+            for (int level = 1; level <= 3; level++) {
+                weak(first, -1, level, 2);
+                first.walk();
+                due("the first one alone, the others have the same", first.best(), 1);
+            }
         });
         holds(24, "Returns the number of answers, 0 if there are none.", () -> {
             due("none", noneWalked().best(), 0);
@@ -609,6 +615,17 @@ public final class AnswerFoldAnswersTest extends SentenceTest {
             counts.addCount(many, 'l', 1, 0);
             counts.walk();
             due("with its counts", counts.reason(0, 0, 0, 0), many);
+
+            AnswerFold denied = with(0, 0, 0);
+            rule(denied, 1);
+            choose(denied, 0, 1, 2);
+            rule(denied, 0, 1, -3);
+            int test = rule(denied, 0, 1);
+            denied.addTest(test, '<', X, 0);
+            int held = rule(denied, 0, 1);
+            denied.walk();
+            due("not a body with an atom to be false that is in it", denied.reason(0, 0, 0, 0), held);
+            due("a body with one that is not in it", denied.reason(1, 0, 0, 0), 2);
         });
         holds(27, REASON, () -> {
             AnswerFold x = with(0, 0, 0);

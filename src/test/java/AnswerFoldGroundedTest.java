@@ -188,6 +188,11 @@ public final class AnswerFoldGroundedTest extends SentenceTest {
             due("one way between them", x.loops(), 2);
             rule(x, 3, 1);
             due("largest sets", x.loops(), 1);
+            AnswerFold y = with(0, 0);
+            rule(y, 0, 1);
+            rule(y, 1, 0);
+            choose(y, 0, 1, 0);
+            due("by the first rule and the next one", y.loops(), 1);
         });
         holds(18, "itself included, straight or over others", () -> {
             AnswerFold x = with(0, 0, 0, 0);
@@ -252,6 +257,16 @@ public final class AnswerFoldGroundedTest extends SentenceTest {
             due("a weak rule leads nowhere", x.loops(), 1);
             x.addTest(e, '<', 1, 1);
             due("not kept", x.loops(), 0);
+            AnswerFold y = with(0, 0, 0);
+            choose(y, 0, 2, 0, 1);
+            choose(y, 0, 1, 2);
+            rule(y, 0, 2, -2);
+            int f = rule(y, 1, 2, -1);
+            due("not to those that are to be false besides one that is to be true", y.loops(), 0);
+            y.addCount(f, 'l', 1, 1);
+            due("nor to those that are counted besides it", y.loops(), 0);
+            y.addAtom(f, true, 1, 0, 0);
+            due("to a second one that is to be true", y.loops(), 1);
         });
         holds(18, "Returns the number of sets.", () -> {
             AnswerFold x = with(2);
@@ -269,6 +284,26 @@ public final class AnswerFoldGroundedTest extends SentenceTest {
             x.addHead(f, 0, X, Y);
             x.addAtom(f, true, 0, 20, Y);
             due("eight of eight each", x.loops(), 8);
+            AnswerFold y = with(2, 2, 2);
+            int some = y.addChoice(0, 0, 2, -1);
+            y.addHead(some, 0, X, Y);
+            y.addHead(some, 1, X, Y);
+            int far = y.addDisjunction(0);
+            y.addHead(far, 1, X, Y);
+            y.addAtom(far, true, 1, X, Y);
+            due("64 among the later ones of 128", y.loops(), 64);
+            int to = y.addDisjunction(0);
+            y.addHead(to, 0, X, 0);
+            y.addAtom(to, true, 1, X, 0);
+            due("led to from afar", y.loops(), 64);
+            int back = y.addDisjunction(0);
+            y.addHead(back, 1, 20, 0);
+            y.addAtom(back, true, 0, X, 0);
+            due("not back to the same ones", y.loops(), 64);
+            int same = y.addDisjunction(0);
+            y.addHead(same, 1, X, 0);
+            y.addAtom(same, true, 0, 20, 0);
+            due("from 0 over 1 back: one of sixteen", y.loops(), 57);
         });
     }
 

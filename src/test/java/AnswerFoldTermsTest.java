@@ -290,6 +290,11 @@ public final class AnswerFoldTermsTest extends SentenceTest {
             due("not this one", x.state(1, 5, 6), 'n');
             x.addHead(c, 1, 32, 2);
             due("both heads: 1 and 6 with 2 besides, and 2 is not new", x.open(), 16);
+            AnswerFold next = with(1, 1);
+            fact(next, 1, 0, 0);
+            int less = next.addChoice(0, 0, 9, 0);
+            next.addHead(less, 1, 32, 0);
+            due("an atom of the next predicate is none of the span", next.open(), 0);
             AnswerFold y = with(1, 1, 0);
             choose(y, 0, 1, 2);
             int d = y.addDisjunction(0);
@@ -328,6 +333,10 @@ public final class AnswerFoldTermsTest extends SentenceTest {
             int second = x.addDisjunction(0);
             x.addHead(second, 1, Y, X_LESS_ONE);
             due("-1 is too small, in a second place", x.instances(second), 56);
+            int third = x.addDisjunction(0);
+            x.addHead(third, 1, Y, X_PLUS_ONE);
+            due("8 is too large, in a second place", x.instances(third), 56);
+            due("also behind a first place that is 7", x.state(1, 7, 7) == 's' && x.open() == 0, true);
             int two = x.addDisjunction(0);
             x.addHead(two, 0, X, 0);
             x.addHead(two, 0, 30, 0);
@@ -355,6 +364,13 @@ public final class AnswerFoldTermsTest extends SentenceTest {
             int none = y.addChoice(0, 1, 1, -1);
             y.addHead(none, 0, PARAMETER_LESS_ONE, 0);
             due("no element is left, and the lower bound is not met", y.walk(), 0);
+            AnswerFold z = with(1, 2);
+            fact(z, 0, 7, 0);
+            int places = z.addChoice(0, 0, 9, 0);
+            z.addHead(places, 1, 22, 3);
+            z.addHead(places, 1, 3, 22);
+            due("in a first place and in a second one", z.open(), 0);
+            due("no element of another value", z.state(1, 4, 0), 'n');
         });
         holds(0, "in a body, an atom with such a value is false.", () -> {
             AnswerFold x = with(1, 0, 0);
@@ -366,6 +382,14 @@ public final class AnswerFoldTermsTest extends SentenceTest {
             int down = rule(x, 2);
             x.addAtom(down, false, 0, X_LESS_ONE, 0);
             due("false for 1 of 8", x.instances(down), 1);
+            AnswerFold y = with(2, 0);
+            y.addHead(y.addDisjunction(0), 0, X, Y);
+            int second = rule(y, 1);
+            y.addAtom(second, true, 0, X, 21);
+            due("in a second place", y.instances(second), 56);
+            int less = rule(y, 1);
+            y.addAtom(less, false, 0, X, 31);
+            due("in a second place, to be false", y.instances(less), 8);
             due("and it holds", answers(x, 1, 0, 0), "00 01 02 03 04 05 06 07 1 2");
         });
     }
@@ -574,6 +598,22 @@ public final class AnswerFoldTermsTest extends SentenceTest {
             AnswerFold x = with(0, 0);
             choose(x, 1, 1, 0, 0);
             due("each atom counted once", answers(x, 0, 0), "0");
+            AnswerFold twice = with(0, 1, 1);
+            rule(twice, 0);
+            choose(twice, 1, 1, 0, 0);
+            due("also a sure one", answers(twice, 0), "0");
+            choose(twice, 2, 2, 0, 0);
+            due("which is not two", twice.walk(), 0);
+            AnswerFold spanned = with(1, 0, 0);
+            fact(spanned, 0, 2, 0);
+            fact(spanned, 0, 5, 0);
+            int both = spanned.addChoice(0, 1, 1, 0);
+            spanned.addHead(both, 1, 0, 0);
+            due("also if several values of a span give it", answers(spanned, -1, 0), "1");
+            rule(spanned, 1);
+            due("and it is sure", answers(spanned, -1, 0), "1");
+            spanned.addHead(both, 2, 0, 0);
+            due("besides another one", answers(spanned, -1, 0, 0), "1");
             int c = choose(x, 2, 2, 0, 1);
             due("also what other rules give", answers(x, 0, 0), "0 1");
             x.addAtom(c, false, 0, 0, 0);
@@ -622,6 +662,22 @@ public final class AnswerFoldTermsTest extends SentenceTest {
             rule(x, 2, 1);
             due("what bodies ask for stays", answers(x, 0, 0, 0), "1 2");
             due("by all", x.walkByAll(), 1);
+
+            AnswerFold first = with(0, 0);
+            either(first, 0, 1);
+            rule(first, 0, 1);
+            due("one head alone does where it is the first one", answers(first, 0, 0), "0");
+            rule(first, 1, 0);
+            due("neither does alone", answers(first, 0, 0), "0 1");
+            AnswerFold second = with(0, 0);
+            either(second, 0, 1);
+            rule(second, 1, 0);
+            due("one head alone does where it is the second one", answers(second, 0, 0), "1");
+            AnswerFold lone = with(0, 0);
+            either(lone, 0, 1);
+            rule(lone, 0, 1);
+            rule(lone, -1, -2);
+            due("it does away with the set of both, though it is none itself", lone.walk(), 0);
 
             AnswerFold loop = with(0, 0, 0);
             choose(loop, 0, 1, 2);
