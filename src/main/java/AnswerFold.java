@@ -1360,11 +1360,11 @@ public final class AnswerFold {
             for (int atom = 0; atom < ATOMS; atom++) {
                 if (assumedIn.contains(atom)) {
                     mustHave |= bitOf(atom);
-                    isHopeless |= !grounding.possible.contains(atom);
+                    isHopeless = isHopeless || !grounding.possible.contains(atom);
                 }
                 if (assumedOut.contains(atom)) {
                     mustLack |= bitOf(atom);
-                    isHopeless |= grounding.sure.contains(atom);
+                    isHopeless = isHopeless || grounding.sure.contains(atom);
                 }
             }
         }
@@ -1694,7 +1694,7 @@ public final class AnswerFold {
             for (int i = 0; i < count; i++) {
                 boolean isAsFirst = true;
                 for (int level = 1; level <= LEVELS; level++) {
-                    isAsFirst &= costAt(i, level) == costAt(0, level);
+                    isAsFirst = isAsFirst && costAt(i, level) == costAt(0, level);
                 }
                 found += isAsFirst ? 1 : 0;
             }
