@@ -798,16 +798,13 @@ public final class AnswerFold {
         boolean testHolds(Literal literal) {
             int one = valueOf(literal.firstSlot, literal.firstShift);
             int two = valueOf(literal.secondSlot, literal.secondShift);
-            switch (literal.kind) {
-                case '<':
-                    return one < two;
-                case '=':
-                    return one == two;
-                case '!':
-                    return one != two;
-                default:
-                    return true;
+            if (literal.kind == '<') {
+                return one < two;
             }
+            if (literal.kind == '=') {
+                return one == two;
+            }
+            return literal.kind != '!' || one != two;
         }
 
         int packed() {

@@ -137,6 +137,8 @@ public final class AnswerFoldFace {
         need(found == code.split("\\bthrow\\b").length - 1, "a throw of another form");
         need(source.chars().allMatch(c -> c < 127), "a sign that is not plain");
         need(code.split("import ").length == 2, "one import");
+        // rule 10: a switch is on numbers or enums
+        need(!Pattern.compile("case\\s+'").matcher(code).find(), "a switch on signs");
     }
 
     /** All loops are for loops whose condition has a bound; no method is longer than some sixty lines. */
